@@ -261,7 +261,13 @@ public final class CollectingTest {
         DUE.is("in node 1", x.count(1, 3), 2);
         x.come(2, 0);
         DUE.is("a grant does not", x.object(1, 1, 3), 0);
-        DUE.is("a ring that no register holds", Scenes.ringOfTwo(2).count(-1, 3), 2);
+        FarHeaps y = Scenes.ringOfTwo(2);
+        y.make(0, 0, 0);
+        y.collect(0);
+        DUE.is("a ring that no register holds", y.count(-1, 3), 2);
+        y.collect(0);
+        DUE.is("in one node", y.count(0, 3), 1);
+        DUE.is("counted by object() alike", y.object(0, 0, 3) + 2 * y.object(0, 1, 3), 2);
     }
 
     private static void countAnswers() {
