@@ -69,13 +69,7 @@ public final class TrialsTest {
     }
 
     private static void heldByRegisters() {
-        FarHeaps x = new FarHeaps(2);
-        x.make(0, 0, 1);
-        x.make(1, 0, 1);
-        Scenes.bring(x, 0, 0, 1, 1);
-        Scenes.bring(x, 1, 0, 0, 1);
-        x.set(0, 0, 0, 1);
-        x.set(1, 0, 0, 1);
+        FarHeaps x = Scenes.heldRingOfTwo(2);
         x.drop(0, 0);
         x.drop(1, 0);
         x.drop(1, 1);
@@ -86,13 +80,7 @@ public final class TrialsTest {
         x.get(1, 0, 0, 0);
         x.drop(0, 1);
         DUE.is("no register holds", x.trial(0, 0), 2);
-        FarHeaps y = new FarHeaps(2);
-        y.make(0, 0, 1);
-        y.make(1, 0, 1);
-        Scenes.bring(y, 0, 0, 1, 1);
-        Scenes.bring(y, 1, 0, 0, 1);
-        y.set(0, 0, 0, 1);
-        y.set(1, 0, 0, 1);
+        FarHeaps y = Scenes.heldRingOfTwo(2);
         y.drop(0, 1);
         y.drop(1, 0);
         y.drop(1, 1);
@@ -101,13 +89,7 @@ public final class TrialsTest {
     }
 
     private static void heldByOthers() {
-        FarHeaps x = new FarHeaps(2);
-        x.make(0, 0, 1);
-        x.make(1, 0, 1);
-        Scenes.bring(x, 0, 0, 1, 1);
-        Scenes.bring(x, 1, 0, 0, 1);
-        x.set(0, 0, 0, 1);
-        x.set(1, 0, 0, 1);
+        FarHeaps x = Scenes.heldRingOfTwo(2);
         x.make(1, 2, 1);
         x.set(1, 2, 0, 1);
         x.make(0, 2, 1);
@@ -116,13 +98,7 @@ public final class TrialsTest {
         DUE.is("an import that a field of one not gray holds", x.trial(0, 0), 0);
         x.collect(1);
         DUE.is("till that is collected", x.trial(0, 0), 2);
-        FarHeaps y = new FarHeaps(2);
-        y.make(0, 0, 1);
-        y.make(1, 0, 1);
-        Scenes.bring(y, 0, 0, 1, 1);
-        Scenes.bring(y, 1, 0, 0, 1);
-        y.set(0, 0, 0, 1);
-        y.set(1, 0, 0, 1);
+        FarHeaps y = Scenes.heldRingOfTwo(2);
         y.make(1, 2, 1);
         y.set(1, 2, 0, 0);
         Scenes.dropAll(y, 1);

@@ -13,8 +13,8 @@ final class Scenes {
         x.drain(1000);
     }
 
-    /** Node 0's object 0 and node 1's object 0 (1 FIELD each) hold one another; no REGISTER holds anything. */
-    static FarHeaps ringOfTwo(int nodes) {
+    /** Node 0's object 0 and node 1's object 0 (1 FIELD each) hold one another; REGISTERS 0 and 1 hold both in each. */
+    static FarHeaps heldRingOfTwo(int nodes) {
         FarHeaps x = new FarHeaps(nodes);
         x.make(0, 0, 1);
         x.make(1, 0, 1);
@@ -22,6 +22,12 @@ final class Scenes {
         bring(x, 1, 0, 0, 1);
         x.set(0, 0, 0, 1);
         x.set(1, 0, 0, 1);
+        return x;
+    }
+
+    /** As heldRingOfTwo, but no REGISTER holds anything. */
+    static FarHeaps ringOfTwo(int nodes) {
+        FarHeaps x = heldRingOfTwo(nodes);
         dropAll(x, 0);
         dropAll(x, 1);
         return x;
