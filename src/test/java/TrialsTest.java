@@ -252,43 +252,20 @@ public final class TrialsTest {
         DUE.is("from 2", x.message(2, 0, 0, 1), 0);
     }
 
-    /** Five nodes in a ring; each holds a hub and small ones of the next, by FIELDS of its own hub and its other. */
-    private static FarHeaps wideRing(int... smallOnes) {
-        FarHeaps x = new FarHeaps(5);
-        for (int n = 0; n < 5; n++) {
-            x.make(n, 0, 12);
-            x.make(n, 1, 12);
-            x.set(n, 0, 11, 1);
-        }
-        for (int n = 0; n < 5; n++) {
-            int next = (n + 1) % 5;
-            int small = smallOnes[n];
-            Scenes.bring(x, next, 0, n, 5);
-            x.set(n, 0, 10, 5);
-            Scenes.giveHeldImports(x, next, n, 0, 0, Math.min(10, small));
-            Scenes.giveHeldImports(x, next, n, 1, 0, Math.max(0, small - 10));
-        }
-        for (int n = 0; n < 5; n++) {
-            x.drop(n, 0);
-            x.drop(n, 1);
-        }
-        return x;
-    }
-
     private static void moreThanSixty() {
-        FarHeaps x = wideRing(11, 11, 11, 11, 11);
+        FarHeaps x = Scenes.wideRing(11, 11, 11, 11, 11);
         DUE.is("60 imports", x.count(-1, 2), 60);
         DUE.is("60 inner imports", x.trial(0, 0), 65);
         DUE.is("60 decs", x.count(-1, 4), 60);
         DUE.is("settle", x.settle(), 65);
-        FarHeaps y = wideRing(12, 11, 11, 11, 11);
+        FarHeaps y = Scenes.wideRing(12, 11, 11, 11, 11);
         DUE.is("61 imports", y.count(-1, 2), 61);
         DUE.is("none is held", y.count(-1, 3), 66);
         DUE.is("61 inner imports", y.trial(0, 0), 0);
         DUE.is("nothing is sent", y.count(-1, 4), 0);
         DUE.is("fields hold", y.field(0, 0, 10, 0), 3);
         DUE.is("pass finds nothing", y.pass(), 0);
-        DUE.is("60 in nodes of unlike many", wideRing(12, 12, 12, 12, 7).trial(0, 0), 65);
+        DUE.is("60 in nodes of unlike many", Scenes.wideRing(12, 12, 12, 12, 7).trial(0, 0), 65);
     }
 
     private static void passes() {
