@@ -12,16 +12,16 @@ final class AskEdges {
     }
 
     void run() {
-        goesToItsNode();
-        aDryOne();
-        askedTwice();
-        noSuchNode();
-        noSuchRegister();
-        holdsNothing();
-        holdsAnInt();
-        holdsALocalOne();
-        theSixtieth();
-        aSixtyFirst();
+        edges.test(this::goesToItsNode);
+        edges.test(this::aDryOne);
+        edges.test(this::askedTwice);
+        edges.test(this::noSuchNode);
+        edges.test(this::noSuchRegister);
+        edges.test(this::holdsNothing);
+        edges.test(this::holdsAnInt);
+        edges.test(this::holdsALocalOne);
+        edges.test(this::theSixtieth);
+        edges.test(this::aSixtyFirst);
     }
 
     private void goesToItsNode() {

@@ -8,15 +8,15 @@ final class CellEdges {
     }
 
     void run() {
-        anEmptyHeap();
-        aFullHeap();
-        topAndBelow();
-        topBehindCollecting();
-        firstAndLastCells();
-        firstAndLastNumbers();
-        noSuchNode();
-        noSuchCell();
-        anotherWhat();
+        edges.test(this::anEmptyHeap);
+        edges.test(this::aFullHeap);
+        edges.test(this::topAndBelow);
+        edges.test(this::topBehindCollecting);
+        edges.test(this::firstAndLastCells);
+        edges.test(this::firstAndLastNumbers);
+        edges.test(this::noSuchNode);
+        edges.test(this::noSuchCell);
+        edges.test(this::anotherWhat);
     }
 
     /** OBJECT 0 of 13 CELLS, OBJECT 1 of 1, OBJECT 2 of 2. */

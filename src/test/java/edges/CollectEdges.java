@@ -10,13 +10,13 @@ final class CollectEdges {
     }
 
     void run() {
-        anEmptyNode();
-        noneWent();
-        allTwentyFourWent();
-        aFullHeap();
-        noOtherNode();
-        noSuchNode();
-        nothingWasDone();
+        edges.test(this::anEmptyNode);
+        edges.test(this::noneWent);
+        edges.test(this::allTwentyFourWent);
+        edges.test(this::aFullHeap);
+        edges.test(this::noOtherNode);
+        edges.test(this::noSuchNode);
+        edges.test(this::nothingWasDone);
     }
 
     private void anEmptyNode() {

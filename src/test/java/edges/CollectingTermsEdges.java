@@ -17,34 +17,34 @@ final class CollectingTermsEdges {
     }
 
     void run() {
-        firstAndLastRegister();
-        theLastNumber();
-        anExport();
-        theLastNumberWithAnExport();
-        firstAndLastField();
-        notWhatThoseBesideHold();
-        aChainOfAll();
-        aFieldOfOneThatIsNotMarked();
-        fieldsOfThoseBeside();
-        importsInRegisters();
-        importsInFields();
-        importsOfTheLastNumber();
-        numbersAreFree();
-        theOrderOfAddresses();
-        nothingIsLeft();
-        inTheOrderOfNumbers();
-        theWholeWeight();
-        justSixty();
-        sixtyOne();
-        sixtyOneWithTheLeastWeight();
-        sixtyOneWithTheLastNumber();
-        thirtyAndThirty();
-        noDecs();
-        heldByRegisters();
-        heldByRefs();
-        heldByFields();
-        notHeldByItself();
-        allAreHeld();
+        edges.test(this::firstAndLastRegister);
+        edges.test(this::theLastNumber);
+        edges.test(this::anExport);
+        edges.test(this::theLastNumberWithAnExport);
+        edges.test(this::firstAndLastField);
+        edges.test(this::notWhatThoseBesideHold);
+        edges.test(this::aChainOfAll);
+        edges.test(this::aFieldOfOneThatIsNotMarked);
+        edges.test(this::fieldsOfThoseBeside);
+        edges.test(this::importsInRegisters);
+        edges.test(this::importsInFields);
+        edges.test(this::importsOfTheLastNumber);
+        edges.test(this::numbersAreFree);
+        edges.test(this::theOrderOfAddresses);
+        edges.test(this::nothingIsLeft);
+        edges.test(this::inTheOrderOfNumbers);
+        edges.test(this::theWholeWeight);
+        edges.test(this::justSixty);
+        edges.test(this::sixtyOne);
+        edges.test(this::sixtyOneWithTheLeastWeight);
+        edges.test(this::sixtyOneWithTheLastNumber);
+        edges.test(this::thirtyAndThirty);
+        edges.test(this::noDecs);
+        edges.test(this::heldByRegisters);
+        edges.test(this::heldByRefs);
+        edges.test(this::heldByFields);
+        edges.test(this::notHeldByItself);
+        edges.test(this::allAreHeld);
     }
 
     private void firstAndLastRegister() {

@@ -10,22 +10,22 @@ final class ComeEdges {
     }
 
     void run() {
-        eachKind();
-        firstOfSixty();
-        noneAtAll();
-        noneOfThatPair();
-        noSuchSendingNode();
-        noSuchNode();
-        oneAndTheSame();
-        theThirtieth();
-        aThirtyFirst();
-        whatIsBehindAThirtyFirst();
-        moreOfOneOfThirty();
-        moreOfTheLeastOfThirty();
-        oneOfItsOwn();
-        noRefs();
-        aGrantWithoutItsImport();
-        roomAgain();
+        edges.test(this::eachKind);
+        edges.test(this::firstOfSixty);
+        edges.test(this::noneAtAll);
+        edges.test(this::noneOfThatPair);
+        edges.test(this::noSuchSendingNode);
+        edges.test(this::noSuchNode);
+        edges.test(this::oneAndTheSame);
+        edges.test(this::theThirtieth);
+        edges.test(this::aThirtyFirst);
+        edges.test(this::whatIsBehindAThirtyFirst);
+        edges.test(this::moreOfOneOfThirty);
+        edges.test(this::moreOfTheLeastOfThirty);
+        edges.test(this::oneOfItsOwn);
+        edges.test(this::noRefs);
+        edges.test(this::aGrantWithoutItsImport);
+        edges.test(this::roomAgain);
     }
 
     private void eachKind() {

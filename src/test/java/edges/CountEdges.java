@@ -8,18 +8,18 @@ final class CountEdges {
     }
 
     void run() {
-        allAndOne();
-        oneNodeAlone();
-        fewestAndMostObjects();
-        fewestAndMostExports();
-        fewestAndMostImports();
-        notHeld();
-        fewestAndMostMessages();
-        topsOfEmptyAndFullHeaps();
-        nothingMoved();
-        wholeObjectsMoved();
-        noSuchNode();
-        anotherWhat();
+        edges.test(this::allAndOne);
+        edges.test(this::oneNodeAlone);
+        edges.test(this::fewestAndMostObjects);
+        edges.test(this::fewestAndMostExports);
+        edges.test(this::fewestAndMostImports);
+        edges.test(this::notHeld);
+        edges.test(this::fewestAndMostMessages);
+        edges.test(this::topsOfEmptyAndFullHeaps);
+        edges.test(this::nothingMoved);
+        edges.test(this::wholeObjectsMoved);
+        edges.test(this::noSuchNode);
+        edges.test(this::anotherWhat);
     }
 
     /** The answers are due of all NODES first, then of each. */

@@ -12,16 +12,16 @@ final class DrainEdges {
     }
 
     void run() {
-        firstAndLastPair();
-        backToTheFirstPair();
-        passesOver();
-        onlyStayingOnes();
-        untilNoneIsThere();
-        nothingUnderWay();
-        fewest();
-        justAsManyAsThereAre();
-        most();
-        anotherNumber();
+        edges.test(this::firstAndLastPair);
+        edges.test(this::backToTheFirstPair);
+        edges.test(this::passesOver);
+        edges.test(this::onlyStayingOnes);
+        edges.test(this::untilNoneIsThere);
+        edges.test(this::nothingUnderWay);
+        edges.test(this::fewest);
+        edges.test(this::justAsManyAsThereAre);
+        edges.test(this::most);
+        edges.test(this::anotherNumber);
     }
 
     private void firstAndLastPair() {

@@ -10,13 +10,13 @@ final class FieldEdges {
     }
 
     void run() {
-        eachKind();
-        firstAndLastPlaces();
-        noSuchNode();
-        noSuchObject();
-        anObjectThatWent();
-        noSuchField();
-        anotherWhat();
+        edges.test(this::eachKind);
+        edges.test(this::firstAndLastPlaces);
+        edges.test(this::noSuchNode);
+        edges.test(this::noSuchObject);
+        edges.test(this::anObjectThatWent);
+        edges.test(this::noSuchField);
+        edges.test(this::anotherWhat);
     }
 
     private void eachKind() {

@@ -11,16 +11,16 @@ final class GetEdges {
     }
 
     void run() {
-        firstAndLastField();
-        nothing();
-        intoTheRegisterItself();
-        noSuchNode();
-        noSuchRegisterA();
-        noSuchRegisterB();
-        noSuchField();
-        notSoManyFields();
-        noFieldsAtAll();
-        noLocalOne();
+        edges.test(this::firstAndLastField);
+        edges.test(this::nothing);
+        edges.test(this::intoTheRegisterItself);
+        edges.test(this::noSuchNode);
+        edges.test(this::noSuchRegisterA);
+        edges.test(this::noSuchRegisterB);
+        edges.test(this::noSuchField);
+        edges.test(this::notSoManyFields);
+        edges.test(this::noFieldsAtAll);
+        edges.test(this::noLocalOne);
     }
 
     private void firstAndLastField() {

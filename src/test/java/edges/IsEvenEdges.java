@@ -11,14 +11,14 @@ final class IsEvenEdges {
     }
 
     void run() {
-        noExport();
-        eachKindUnderWay();
-        sixtyUnderWay();
-        dry();
-        nothingOfItIsLeft();
-        firstAndLastNode();
-        manyOfEach();
-        alwaysAnExport();
+        edges.test(this::noExport);
+        edges.test(this::eachKindUnderWay);
+        edges.test(this::sixtyUnderWay);
+        edges.test(this::dry);
+        edges.test(this::nothingOfItIsLeft);
+        edges.test(this::firstAndLastNode);
+        edges.test(this::manyOfEach);
+        edges.test(this::alwaysAnExport);
     }
 
     private void noExport() {

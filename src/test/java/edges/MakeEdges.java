@@ -11,18 +11,18 @@ final class MakeEdges {
     }
 
     void run() {
-        fewestAndMostFields();
-        holdingNothing();
-        heldByARegister();
-        noSuchNode();
-        noSuchRegister();
-        noSuchNumberOfFields();
-        twentyFourAreThere();
-        twentyFourOfAnotherNode();
-        roomThatIsJustEnough();
-        roomThatIsOneTooSmall();
-        noRoomAtAll();
-        roomOfWhatIsNotHeld();
+        edges.test(this::fewestAndMostFields);
+        edges.test(this::holdingNothing);
+        edges.test(this::heldByARegister);
+        edges.test(this::noSuchNode);
+        edges.test(this::noSuchRegister);
+        edges.test(this::noSuchNumberOfFields);
+        edges.test(this::twentyFourAreThere);
+        edges.test(this::twentyFourOfAnotherNode);
+        edges.test(this::roomThatIsJustEnough);
+        edges.test(this::roomThatIsOneTooSmall);
+        edges.test(this::noRoomAtAll);
+        edges.test(this::roomOfWhatIsNotHeld);
     }
 
     /** NODE 0 with two OBJECTS, and something in REGISTERS 0, 1 and 5. */

@@ -10,18 +10,18 @@ final class MessageEdges {
     }
 
     void run() {
-        firstAndLastOfSixty();
-        ofThatPairAlone();
-        eachKind();
-        firstAndLastObject();
-        leastWeight();
-        weightOfAnAsk();
-        firstAndLastRegister();
-        noRegister();
-        noSuchNodes();
-        noSuchMessage();
-        noneUnderWay();
-        anotherWhat();
+        edges.test(this::firstAndLastOfSixty);
+        edges.test(this::ofThatPairAlone);
+        edges.test(this::eachKind);
+        edges.test(this::firstAndLastObject);
+        edges.test(this::leastWeight);
+        edges.test(this::weightOfAnAsk);
+        edges.test(this::firstAndLastRegister);
+        edges.test(this::noRegister);
+        edges.test(this::noSuchNodes);
+        edges.test(this::noSuchMessage);
+        edges.test(this::noneUnderWay);
+        edges.test(this::anotherWhat);
     }
 
     private void firstAndLastOfSixty() {

@@ -8,11 +8,11 @@ final class NewObjectEdges {
     }
 
     void run() {
-        fewestToMostNodes();
-        tooFewNodes();
-        tooManyNodes();
-        withNothing();
-        lastCall();
+        edges.test(this::fewestToMostNodes);
+        edges.test(this::tooFewNodes);
+        edges.test(this::tooManyNodes);
+        edges.test(this::withNothing);
+        edges.test(this::lastCall);
     }
 
     private void hasNodes(int asked, int due) {

@@ -10,29 +10,29 @@ final class NodeTermsEdges {
     }
 
     void run() {
-        nodesFromZeroOn();
-        objectsFromZeroToTwentyThree();
-        leastFreeAtFirst();
-        leastFreeOfSeveral();
-        leastFreeAtTheEnd();
-        fieldsFromZeroToTwelve();
-        sixRegisters();
-        noExportsAndImports();
-        aHeapOfItsOwn();
-        cellsOfOneObject();
-        topAtFirst();
-        topTillCollecting();
-        topBehindCollecting();
-        newOnesAtTop();
-        values();
-        farOnesWithoutAnImport();
-        totalsAboveZero();
-        weightsAboveZero();
-        thirtyImports();
-        thirtyImportsOfOneNode();
-        inTheOrderOfSending();
-        sixtyInAll();
-        whatMessagesHave();
+        edges.test(this::nodesFromZeroOn);
+        edges.test(this::objectsFromZeroToTwentyThree);
+        edges.test(this::leastFreeAtFirst);
+        edges.test(this::leastFreeOfSeveral);
+        edges.test(this::leastFreeAtTheEnd);
+        edges.test(this::fieldsFromZeroToTwelve);
+        edges.test(this::sixRegisters);
+        edges.test(this::noExportsAndImports);
+        edges.test(this::aHeapOfItsOwn);
+        edges.test(this::cellsOfOneObject);
+        edges.test(this::topAtFirst);
+        edges.test(this::topTillCollecting);
+        edges.test(this::topBehindCollecting);
+        edges.test(this::newOnesAtTop);
+        edges.test(this::values);
+        edges.test(this::farOnesWithoutAnImport);
+        edges.test(this::totalsAboveZero);
+        edges.test(this::weightsAboveZero);
+        edges.test(this::thirtyImports);
+        edges.test(this::thirtyImportsOfOneNode);
+        edges.test(this::inTheOrderOfSending);
+        edges.test(this::sixtyInAll);
+        edges.test(this::whatMessagesHave);
     }
 
     private void nodesFromZeroOn() {

@@ -8,14 +8,14 @@ final class NumberAndDropEdges {
     }
 
     void run() {
-        leastAndMostInts();
-        intsThatAreLikeNothing();
-        numberWithoutNode();
-        numberWithoutRegister();
-        dropOfEachKind();
-        dropOfNothing();
-        dropWithoutNode();
-        dropWithoutRegister();
+        edges.test(this::leastAndMostInts);
+        edges.test(this::intsThatAreLikeNothing);
+        edges.test(this::numberWithoutNode);
+        edges.test(this::numberWithoutRegister);
+        edges.test(this::dropOfEachKind);
+        edges.test(this::dropOfNothing);
+        edges.test(this::dropWithoutNode);
+        edges.test(this::dropWithoutRegister);
     }
 
     private void leastAndMostInts() {

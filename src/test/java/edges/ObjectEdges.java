@@ -8,15 +8,15 @@ final class ObjectEdges {
     }
 
     void run() {
-        firstAndLastAddress();
-        fewestAndMostFields();
-        neverAnExport();
-        noExportAnyMore();
-        held();
-        noSuchNode();
-        noSuchNumber();
-        aFreeNumber();
-        anotherWhat();
+        edges.test(this::firstAndLastAddress);
+        edges.test(this::fewestAndMostFields);
+        edges.test(this::neverAnExport);
+        edges.test(this::noExportAnyMore);
+        edges.test(this::held);
+        edges.test(this::noSuchNode);
+        edges.test(this::noSuchNumber);
+        edges.test(this::aFreeNumber);
+        edges.test(this::anotherWhat);
     }
 
     private void firstAndLastAddress() {

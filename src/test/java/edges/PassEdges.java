@@ -8,14 +8,14 @@ final class PassEdges {
     }
 
     void run() {
-        nothingToDo();
-        settlesFirst();
-        trialsOfAll();
-        trialsFromTheFirstOneOn();
-        tillNoneSucceeds();
-        inAll();
-        aRefThatStays();
-        aCollectingThatIsNotDone();
+        edges.test(this::nothingToDo);
+        edges.test(this::settlesFirst);
+        edges.test(this::trialsOfAll);
+        edges.test(this::trialsFromTheFirstOneOn);
+        edges.test(this::tillNoneSucceeds);
+        edges.test(this::inAll);
+        edges.test(this::aRefThatStays);
+        edges.test(this::aCollectingThatIsNotDone);
     }
 
     private void nothingToDo() {

@@ -8,14 +8,14 @@ final class RegisterEdges {
     }
 
     void run() {
-        kinds();
-        leastAndMostInts();
-        firstAndLastObjects();
-        nothing();
-        nothingAnyMore();
-        noSuchNode();
-        noSuchRegister();
-        anotherWhat();
+        edges.test(this::kinds);
+        edges.test(this::leastAndMostInts);
+        edges.test(this::firstAndLastObjects);
+        edges.test(this::nothing);
+        edges.test(this::nothingAnyMore);
+        edges.test(this::noSuchNode);
+        edges.test(this::noSuchRegister);
+        edges.test(this::anotherWhat);
     }
 
     private void kinds() {

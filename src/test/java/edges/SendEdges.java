@@ -11,20 +11,20 @@ final class SendEdges {
     }
 
     void run() {
-        firstAndLastPlaces();
-        theLeastWeights();
-        noSuchNode();
-        noSuchRegister();
-        noSuchNodeToSendTo();
-        noSuchRegisterThere();
-        toTheNodeItself();
-        holdsNothing();
-        holdsAnInt();
-        theSixtieth();
-        aSixtyFirstOfALocalOne();
-        aSixtyFirstOfAFarOne();
-        roomAgain();
-        dry();
+        edges.test(this::firstAndLastPlaces);
+        edges.test(this::theLeastWeights);
+        edges.test(this::noSuchNode);
+        edges.test(this::noSuchRegister);
+        edges.test(this::noSuchNodeToSendTo);
+        edges.test(this::noSuchRegisterThere);
+        edges.test(this::toTheNodeItself);
+        edges.test(this::holdsNothing);
+        edges.test(this::holdsAnInt);
+        edges.test(this::theSixtieth);
+        edges.test(this::aSixtyFirstOfALocalOne);
+        edges.test(this::aSixtyFirstOfAFarOne);
+        edges.test(this::roomAgain);
+        edges.test(this::dry);
     }
 
     private void firstAndLastPlaces() {

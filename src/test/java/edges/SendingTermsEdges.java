@@ -18,29 +18,29 @@ final class SendingTermsEdges {
     }
 
     void run() {
-        aFirstExport();
-        anExportThatIsThere();
-        anExportAgain();
-        evenAndOddWeights();
-        weightTwo();
-        weightOne();
-        comesHome();
-        aFirstImport();
-        aFirstImportOfOne();
-        anImportThatIsThere();
-        anImportAgain();
-        decOfAPart();
-        decOfAll();
-        decOfAllWhileARegisterHolds();
-        asks();
-        asksWithSixtyUnderWay();
-        grants();
-        grantsWithThirtyImports();
-        grantWithoutImport();
-        grantWithoutImportWithSixtyUnderWay();
-        grantForANewImport();
-        heldAhead();
-        importsStay();
+        edges.test(this::aFirstExport);
+        edges.test(this::anExportThatIsThere);
+        edges.test(this::anExportAgain);
+        edges.test(this::evenAndOddWeights);
+        edges.test(this::weightTwo);
+        edges.test(this::weightOne);
+        edges.test(this::comesHome);
+        edges.test(this::aFirstImport);
+        edges.test(this::aFirstImportOfOne);
+        edges.test(this::anImportThatIsThere);
+        edges.test(this::anImportAgain);
+        edges.test(this::decOfAPart);
+        edges.test(this::decOfAll);
+        edges.test(this::decOfAllWhileARegisterHolds);
+        edges.test(this::asks);
+        edges.test(this::asksWithSixtyUnderWay);
+        edges.test(this::grants);
+        edges.test(this::grantsWithThirtyImports);
+        edges.test(this::grantWithoutImport);
+        edges.test(this::grantWithoutImportWithSixtyUnderWay);
+        edges.test(this::grantForANewImport);
+        edges.test(this::heldAhead);
+        edges.test(this::importsStay);
     }
 
     private void aFirstExport() {

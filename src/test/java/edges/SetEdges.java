@@ -12,18 +12,18 @@ final class SetEdges {
     }
 
     void run() {
-        firstAndLastField();
-        nothing();
-        itself();
-        noSuchNode();
-        noSuchRegisterA();
-        noSuchRegisterB();
-        noSuchField();
-        notSoManyFields();
-        noFieldsAtAll();
-        aHoldsNothing();
-        aHoldsAnInt();
-        aHoldsAFarOne();
+        edges.test(this::firstAndLastField);
+        edges.test(this::nothing);
+        edges.test(this::itself);
+        edges.test(this::noSuchNode);
+        edges.test(this::noSuchRegisterA);
+        edges.test(this::noSuchRegisterB);
+        edges.test(this::noSuchField);
+        edges.test(this::notSoManyFields);
+        edges.test(this::noFieldsAtAll);
+        edges.test(this::aHoldsNothing);
+        edges.test(this::aHoldsAnInt);
+        edges.test(this::aHoldsAFarOne);
     }
 
     private void firstAndLastField() {

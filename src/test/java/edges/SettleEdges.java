@@ -11,17 +11,17 @@ final class SettleEdges {
     }
 
     void run() {
-        nothingToDo();
-        messagesComeFirst();
-        againstTheOrderOfNodes();
-        aTurnThatOnlySends();
-        aTurnInWhichOneOnlyComes();
-        inAll();
-        decsThatAreJustNotTooMany();
-        decsThatAreTooMany();
-        aCollectingThatIsNotDone();
-        aRefThatStays();
-        aRefThatStaysAtFirst();
+        edges.test(this::nothingToDo);
+        edges.test(this::messagesComeFirst);
+        edges.test(this::againstTheOrderOfNodes);
+        edges.test(this::aTurnThatOnlySends);
+        edges.test(this::aTurnInWhichOneOnlyComes);
+        edges.test(this::inAll);
+        edges.test(this::decsThatAreJustNotTooMany);
+        edges.test(this::decsThatAreTooMany);
+        edges.test(this::aCollectingThatIsNotDone);
+        edges.test(this::aRefThatStays);
+        edges.test(this::aRefThatStaysAtFirst);
     }
 
     private void nothingToDo() {

@@ -10,16 +10,16 @@ final class TrialEdges {
     }
 
     void run() {
-        fewest();
-        most();
-        notThoseThatAreWithout();
-        doesNotSucceed();
-        noSuchNode();
-        noSuchNumber();
-        noObjectOfThatNumber();
-        withoutAnExport();
-        withoutAnExportAnyMore();
-        aMessageUnderWay();
+        edges.test(this::fewest);
+        edges.test(this::most);
+        edges.test(this::notThoseThatAreWithout);
+        edges.test(this::doesNotSucceed);
+        edges.test(this::noSuchNode);
+        edges.test(this::noSuchNumber);
+        edges.test(this::noObjectOfThatNumber);
+        edges.test(this::withoutAnExport);
+        edges.test(this::withoutAnExportAnyMore);
+        edges.test(this::aMessageUnderWay);
     }
 
     private static FarHeaps ring() {

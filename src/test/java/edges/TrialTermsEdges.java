@@ -17,38 +17,38 @@ final class TrialTermsEdges {
     }
 
     void run() {
-        anExportAndNothingUnderWay();
-        grayThroughAllNodes();
-        grayWithoutFields();
-        grayByLocalFields();
-        grayAreAll();
-        againAndAgain();
-        againAndAgainThroughAll();
-        aRegisterOfItsNode();
-        aFieldThatIsNoRegister();
-        aFieldOfOneNotGray();
-        aFieldOfTheLastNumber();
-        aFieldOfOneNotGrayThatGoes();
-        onesNotGrayBesideGrayOnes();
-        whatWithoutOnesHold();
-        whatAWithoutOneAmongGrayOnesHolds();
-        totalOne();
-        weightOneElsewhere();
-        weightsOfTwoNodes();
-        noExport();
-        noFieldHoldsTheImport();
-        aWithoutOneHoldsTheImport();
-        aRegisterHoldsTheImport();
-        anotherObjectHoldsTheImport();
-        othersBesideThoseThatHoldTheImport();
-        succeedsWithWithoutOnes();
-        emptiesFields();
-        emptiesFieldsOfAll();
-        leavesFieldsOfWithoutOnes();
-        givesBackInOrder();
-        sixtyInner();
-        sixtyOneInner();
-        sixtyOneInnerWithTheLastNumber();
+        edges.test(this::anExportAndNothingUnderWay);
+        edges.test(this::grayThroughAllNodes);
+        edges.test(this::grayWithoutFields);
+        edges.test(this::grayByLocalFields);
+        edges.test(this::grayAreAll);
+        edges.test(this::againAndAgain);
+        edges.test(this::againAndAgainThroughAll);
+        edges.test(this::aRegisterOfItsNode);
+        edges.test(this::aFieldThatIsNoRegister);
+        edges.test(this::aFieldOfOneNotGray);
+        edges.test(this::aFieldOfTheLastNumber);
+        edges.test(this::aFieldOfOneNotGrayThatGoes);
+        edges.test(this::onesNotGrayBesideGrayOnes);
+        edges.test(this::whatWithoutOnesHold);
+        edges.test(this::whatAWithoutOneAmongGrayOnesHolds);
+        edges.test(this::totalOne);
+        edges.test(this::weightOneElsewhere);
+        edges.test(this::weightsOfTwoNodes);
+        edges.test(this::noExport);
+        edges.test(this::noFieldHoldsTheImport);
+        edges.test(this::aWithoutOneHoldsTheImport);
+        edges.test(this::aRegisterHoldsTheImport);
+        edges.test(this::anotherObjectHoldsTheImport);
+        edges.test(this::othersBesideThoseThatHoldTheImport);
+        edges.test(this::succeedsWithWithoutOnes);
+        edges.test(this::emptiesFields);
+        edges.test(this::emptiesFieldsOfAll);
+        edges.test(this::leavesFieldsOfWithoutOnes);
+        edges.test(this::givesBackInOrder);
+        edges.test(this::sixtyInner);
+        edges.test(this::sixtyOneInner);
+        edges.test(this::sixtyOneInnerWithTheLastNumber);
     }
 
     private void anExportAndNothingUnderWay() {
@@ -229,7 +229,7 @@ final class TrialTermsEdges {
         edges.is("trial(0, 0) behind collecting", x.trial(0, 0), 2);
     }
 
-    /** A ring, with OBJECT 1 of NODE 0 in it, OBJECTS 0 and 2 beside it, all of 12 FIELDS; REGISTERS 3 and 4 there are for FIELDS 0 and 11. */
+    /** OBJECT 1 of NODE 0 (its FIELD 5) and OBJECT 0 of NODE 1 are a ring; OBJECTS 0 and 2 beside it have 12 FIELDS, as it has. */
     private static FarHeaps ringBetweenOthers() {
         FarHeaps x = new FarHeaps(2);
         for (int a = 0; a < 3; a++) {

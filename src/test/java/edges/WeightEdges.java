@@ -8,14 +8,14 @@ final class WeightEdges {
     }
 
     void run() {
-        theLeast();
-        firstAndLastPlaces();
-        withoutOne();
-        givenBack();
-        ofItsOwn();
-        underWay();
-        noSuchPlaces();
-        besideThoseThatAre();
+        edges.test(this::theLeast);
+        edges.test(this::firstAndLastPlaces);
+        edges.test(this::withoutOne);
+        edges.test(this::givenBack);
+        edges.test(this::ofItsOwn);
+        edges.test(this::underWay);
+        edges.test(this::noSuchPlaces);
+        edges.test(this::besideThoseThatAre);
     }
 
     private void theLeast() {

@@ -13,8 +13,20 @@ final class Edges {
     private final Document document = new Document();
     private final Due due = new Due();
     private final Set<String> titles = new HashSet<>();
-    private String title = "";
+    private String title;
     private boolean isEmpty;
+
+    /** Should one test throw, the others are run nevertheless. */
+    void test(Runnable one) {
+        title = "a test without a name";
+        isEmpty = true;
+        try {
+            one.run();
+            due.no(title + ": asks nothing", isEmpty);
+        } catch (RuntimeException e) {
+            due.no(title + ": threw " + e, true);
+        }
+    }
 
     void of(int promise, String words) {
         begin("Promise " + promise + ":", words, "");
@@ -38,16 +50,10 @@ final class Edges {
     }
 
     private void begin(String beginning, String words, String which) {
-        endOne();
         String heading = document.heading(beginning);
         title = heading + ", \"" + words + "\"" + (which.isEmpty() ? "" : ", " + which);
         due.yes("the document has: " + title, document.name(heading, words));
         due.yes("only one test is named: " + title, titles.add(title));
-        isEmpty = true;
-    }
-
-    private void endOne() {
-        due.no("a test asks nothing: " + title, isEmpty);
     }
 
     void is(String call, long got, long want) {
@@ -57,10 +63,6 @@ final class Edges {
 
     void yes(String call, boolean got) {
         is(call, got ? 1 : 0, 1);
-    }
-
-    void no(String call, boolean got) {
-        is(call, got ? 1 : 0, 0);
     }
 
     /** The call is answered so, and all that can be seen is as it is without the call. */
@@ -88,7 +90,6 @@ final class Edges {
     }
 
     void end() {
-        endOne();
         for (String passage : document.unnamed()) {
             due.no("no test names: " + passage, true);
         }
