@@ -278,7 +278,7 @@ public final class FarHeaps {
         if (!isNode(n) || !isNode(m) || k < 0 || k >= MOST_OBJECTS) {
             return 0;
         }
-        return nodes[n].weights[idOf(m, k)];
+        return nodes[n].weightOfImport(idOf(m, k));
     }
 
     public int message(int m, int n, int i, int what) {
@@ -332,6 +332,11 @@ public final class FarHeaps {
         return n * MOST_OBJECTS + k;
     }
 
+    /** An id that stood in a row is looked at again where it is used as an index. */
+    private static boolean isId(int id) {
+        return id >= 0 && id < IDS;
+    }
+
     private static int nodeOf(int id) {
         return id / MOST_OBJECTS;
     }
@@ -372,7 +377,7 @@ public final class FarHeaps {
 
     /** A GRANT may find its IMPORT given back; the WEIGHT must not be lost then. */
     private void takeGrant(int n, int id, int weight) {
-        if (nodes[n].weights[id] > 0) {
+        if (nodes[n].weightOfImport(id) > 0) {
             nodes[n].changeWeight(id, weight);
         } else {
             post.put(DEC, n, nodeOf(id), id, weight, NONE);
@@ -422,7 +427,7 @@ public final class FarHeaps {
     private int weightsOf(int id) {
         int sum = post.weightOf(id);
         for (int n = 0; n < nodes.length; n++) {
-            sum += nodes[n].weights[id];
+            sum += nodes[n].weightOfImport(id);
         }
         return sum;
     }
@@ -436,8 +441,8 @@ public final class FarHeaps {
         private int spreadSoFar;
 
         private void clear() {
-            for (int i = 0; i < size && i < IDS; i++) {
-                marked[row[i]] = false;
+            for (int id = 0; id < IDS; id++) {
+                marked[id] = false;
             }
             size = 0;
             spreadSoFar = 0;
@@ -459,7 +464,7 @@ public final class FarHeaps {
         private void spread(Node[] nodes) {
             for (int i = spreadSoFar; i < size && i < IDS; i++) {
                 int n = nodeOf(row[i]);
-                if (n < nodes.length) {
+                if (n >= 0 && n < nodes.length) {
                     nodes[n].markFields(numberOf(row[i]), this);
                 }
             }
@@ -604,8 +609,9 @@ public final class FarHeaps {
             return hasObject(k) && f >= 0 && f < sizes[k];
         }
 
+        /** The least number for a new OBJECT, NONE if there is none. */
         private int freeNumber() {
-            for (int k = 0; k < MOST_OBJECTS; k++) {
+            for (int k = 0; k < MOST_OBJECTS && objects < MOST_OBJECTS; k++) {
                 if (sizes[k] == FREE) {
                     return k;
                 }
@@ -636,8 +642,10 @@ public final class FarHeaps {
         }
 
         private void fill(int slot, int kind, int content) {
-            kinds[slot] = kind;
-            contents[slot] = content;
+            if (slot >= 0 && slot < SLOTS) {
+                kinds[slot] = kind;
+                contents[slot] = content;
+            }
         }
 
         private void empty(int slot) {
@@ -669,10 +677,20 @@ public final class FarHeaps {
         }
 
         private void changeTotal(int id, int by) {
-            totals[numberOf(id)] += by;
+            if (isId(id)) {
+                totals[numberOf(id)] += by;
+            }
+        }
+
+        /** 0 if this NODE has no such IMPORT. */
+        private int weightOfImport(int id) {
+            return isId(id) ? weights[id] : 0;
         }
 
         private void changeWeight(int id, int by) {
+            if (!isId(id)) {
+                return;
+            }
             int before = weights[id];
             weights[id] = before + by;
             if (before == 0 && by != 0) {
@@ -688,7 +706,7 @@ public final class FarHeaps {
                 changeTotal(id, NEW_WEIGHT);
                 return NEW_WEIGHT;
             }
-            int half = weights[id] / 2;
+            int half = weightOfImport(id) / 2;
             if (half > 0) {
                 changeWeight(id, -half);
             }
@@ -696,7 +714,7 @@ public final class FarHeaps {
         }
 
         private boolean canTake(int id) {
-            return nodeOf(id) == index || weights[id] > 0 || imports < MOST_IMPORTS;
+            return nodeOf(id) == index || weightOfImport(id) > 0 || imports < MOST_IMPORTS;
         }
 
         private void takeRef(int id, int weight, int register) {
@@ -710,8 +728,9 @@ public final class FarHeaps {
         }
 
         private void giveBack(int id, Post post) {
-            post.put(DEC, index, nodeOf(id), id, weights[id], NONE);
-            changeWeight(id, -weights[id]);
+            int weight = weightOfImport(id);
+            post.put(DEC, index, nodeOf(id), id, weight, NONE);
+            changeWeight(id, -weight);
         }
 
         private void markRegisters(Marks marks) {
@@ -879,11 +898,13 @@ public final class FarHeaps {
         /** Whether a GRAY OBJECT came to be WITHOUT, since INNER IMPORTS don't make up its TOTAL. */
         private boolean markUncovered(Node[] nodes) {
             int before = without.size;
-            for (int i = 0; i < gray.size && i < IDS; i++) {
-                int id = gray.row[i];
-                int total = nodes[nodeOf(id)].totals[numberOf(id)];
-                if (total > 0 && total != innerWeights[id]) {
-                    without.add(id);
+            for (int n = 0; n < nodes.length; n++) {
+                for (int k = 0; k < MOST_OBJECTS; k++) {
+                    int id = idOf(n, k);
+                    int total = nodes[n].totals[k];
+                    if (gray.has(id) && total > 0 && total != innerWeights[id]) {
+                        without.add(id);
+                    }
                 }
             }
             return without.size > before;
@@ -929,8 +950,8 @@ public final class FarHeaps {
         }
 
         private void noteHolder(Node node, int slot, int how) {
-            if (node.kinds[slot] == FAR) {
-                int id = node.contents[slot];
+            int id = node.contents[slot];
+            if (node.kinds[slot] == FAR && isId(id)) {
                 holders[id] = Math.max(holders[id], how);
             }
         }

@@ -35,6 +35,7 @@ public final class FaceTest {
             inside(inside);
         }
         source(Files.readString(Path.of("src/main/java/FarHeaps.java")));
+        methods(new Source(Files.readString(Path.of("src/main/java/FarHeaps.java"))));
         DUE.end();
     }
 
@@ -88,7 +89,7 @@ public final class FaceTest {
     }
 
     private static void source(String text) {
-        String code = text.replaceAll("(?s)/\\*.*?\\*/", "").replaceAll("//[^\n]*", "");
+        String code = Source.withoutComments(text);
         for (String pattern : RULED_OUT) {
             Matcher found = Pattern.compile(pattern, Pattern.MULTILINE).matcher(code);
             DUE.no("the source has " + pattern, found.find());
@@ -96,5 +97,27 @@ public final class FaceTest {
         for (int i = 0; i < text.length(); i++) {
             DUE.yes("character " + i + " is at most 255", text.charAt(i) <= 255);
         }
+    }
+
+    /** Rules 8, 11 and 12, and that no call makes an object. */
+    private static void methods(Source source) {
+        int found = 0;
+        for (String name : source.names()) {
+            DUE.yes(name + " is at most sixty lines long", source.lines(name) <= 60);
+            DUE.yes(name + " calls at most eight deep, itself told", source.depth(name) <= 8);
+            if (!source.isConstructor(name)) {
+                found++;
+                DUE.no(name + " makes an object", source.body(name).matches("(?s).*\\bnew\\b.*"));
+            }
+        }
+        DUE.is("methods that were found in the source", found, declaredMethods());
+    }
+
+    private static int declaredMethods() {
+        int sum = FarHeaps.class.getDeclaredMethods().length;
+        for (Class<?> inside : FarHeaps.class.getDeclaredClasses()) {
+            sum += inside.getDeclaredMethods().length;
+        }
+        return sum;
     }
 }
